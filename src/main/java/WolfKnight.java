@@ -29,8 +29,8 @@ public final class WolfKnight {
     private final DiaryReader diaryReader = new DiaryReader();
     private final LawReader lawReader = new LawReader();
     private final int[] dressings = new int[1 << SUITS];
-    private Law rulesInForce = new Law();
-    private Law rulesInMaking = new Law();
+    private final Law rulesInForce = new Law();
+    private final Law rulesInMaking = new Law();
     private boolean anyKept = false;
 
     public WolfKnight() {
@@ -87,9 +87,7 @@ public final class WolfKnight {
         tape.clear();
         int answer = lawReader.readLaw(rulesInMaking);
         if (answer >= 0) {
-            Law before = rulesInForce;
-            rulesInForce = rulesInMaking;
-            rulesInMaking = before;
+            rulesInForce.copyFrom(rulesInMaking);
         }
         return answer;
     }
@@ -1120,20 +1118,18 @@ public final class WolfKnight {
         /** A number of so many digits at most; NONE: a fault. */
         final int readNumber(int mostDigits) {
             int value = 0;
-            for (int digits = 0; digits < mostDigits; digits++) {
-                int sign = sign();
-                if (!isDigit(sign)) {
-                    return digits > 0 ? value : noneFor(1);
-                }
-                value = 10 * value + sign - '0';
+            int digits = 0;
+            while (digits < mostDigits && isDigit(sign())) {
+                value = 10 * value + sign() - '0';
+                digits++;
                 at++;
             }
-            return isDigit(sign()) ? noneFor(2) : value;
-        }
-
-        private int noneFor(int number) {
-            blame(number, at);
-            return NONE;
+            boolean tooMany = isDigit(sign());
+            if (tooMany || digits == 0) {
+                blame(tooMany ? 2 : 1, at);
+                return NONE;
+            }
+            return value;
         }
 
         static boolean isDigit(int sign) {
@@ -1310,6 +1306,21 @@ public final class WolfKnight {
         private void clear() {
             rules = 0;
             codes = 0;
+        }
+
+        private void copyFrom(Law other) {
+            for (int r = 0; r < MOST_RULES; r++) {
+                kinds[r] = other.kinds[r];
+                sumStarts[r] = other.sumStarts[r];
+                testStarts[r] = other.testStarts[r];
+                ends[r] = other.ends[r];
+            }
+            for (int i = 0; i < MOST_CODES; i++) {
+                signs[i] = other.signs[i];
+                args[i] = other.args[i];
+            }
+            rules = other.rules;
+            codes = other.codes;
         }
 
         private boolean isFull() {
