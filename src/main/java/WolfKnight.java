@@ -187,7 +187,6 @@ public final class WolfKnight {
             return -3;
         }
         draft.copyFrom(band);
-        walk.forget();
         for (int gone = 1; gone <= n; gone++) {
             walk.goDay(forest, rulesInForce, draft);
             if (draft.kindOf(k) == MAN) {

@@ -231,6 +231,49 @@ public final class DaysTest {
         Due.is("refused is 0", 0, w.knightIs(0, 3));
     }
 
+    private static void promise10WhatTheLawSees() {
+        WolfKnight x = Due.row(4);
+        x.first(6);
+        x.knight(8, 2, 64);
+        x.knight(0, 2, 0);
+        x.knight(1, 2, 0);
+        x.knight(2, 3, 0);
+        Due.hunts(x, 2, "h");
+        Due.law(x, "e1(p=3&n=2&k=8&j=1&o=1&f=0&w=6);h10(p=2&n=3&k=8&j=0&o=2&f=1&w=6)");
+        x.days(1);
+        Due.is("he goes", 3, x.knightIs(8, 0));
+        Due.is("he lives", 1, x.knightIs(8, 2));
+        Due.is("his clothes are taken", 1, x.knightIs(8, 3));
+        Due.law(x, "s(p=3&n=3&k=8&j=2&o=1&f=1&w=0&t=1)");
+        Due.hunts(x, 3, "h");
+        Due.is("he is spared", 0, x.days(1));
+        Due.diary(x, "i@3");
+        Due.law(x, "s(0=0)");
+        x.days(1);
+        Due.is("a man", 0, x.knightIs(8, 2));
+        Due.is("worn", -2, x.knightIs(8, 3));
+        Due.diary(x, "i>0;i+;i>1");
+        Due.is("he goes", 1, x.knightIs(8, 0));
+        Due.is("clothes", 0, x.knightIs(8, 3));
+        Due.hunts(x, 1, "h");
+        Due.law(x, "e0(0=0)");
+        Due.is("he is dead", 1, x.days(1));
+        Due.is("he is dead", 256, x.count(5));
+    }
+
+    private static void promise10PlaceEleven() {
+        WolfKnight x = Due.row(12);
+        Due.law(x, "ep(n>9);h10(p=11)");
+        x.knight(0, 10, 127);
+        x.days(1);
+        Due.is("to 11", 11, x.knightIs(0, 0));
+        x.days(1);
+        Due.is("and back", 10, x.knightIs(0, 0));
+        Due.diary(x, "a@11");
+        x.days(1);
+        Due.is("taken from 11 to 10", 10, x.knightIs(0, 3));
+    }
+
     private static void promise10Days() {
         WolfKnight x = Due.row(2);
         x.knight(0, 0, 127);
@@ -453,6 +496,9 @@ public final class DaysTest {
         likes("e1(!(0=1|0=0));e2(0=0)", 2);
         likes("e1(0=0&0=0&0=1|0=1|0=0&0=0);e2(0=0)", 1);
         likes("e1(0=1|0=1|0=1);e2(0=0)", 2);
+        likes("e1(!p<4);e2(0=0)", 2);
+        likes("e1(!p>2);e2(0=0)", 2);
+        likes("e1(!p<3&!p>3);e2(0=0)", 1);
         likes("e1(k+p=n*5&[j-f]*2=o+w);e2(0=0)", 1);
         likes("e1(0-1<0);e2(0=0)", 1);
     }
@@ -478,6 +524,10 @@ public final class DaysTest {
         WolfKnight x = aWolf();
         Due.law(x, "ej+10*n+100*p+1000*o(0=0)");
         Due.is("for his own place", 111, x.likes(2, 1));
+        Due.law(x, "ef(0=0)");
+        Due.is("hunted", 1, x.likes(2, 3));
+        Due.is("not hunted", 0, x.likes(2, 2));
+        Due.law(x, "ej+10*n+100*p+1000*o(0=0)");
         Due.is("far ones, too", 2313, x.likes(2, 3));
         Due.is("of a man: no clothes", 99 + 30 + 400, x.likes(5, 4));
         Due.is("himself is no other one", 1429, x.likes(5, 3));
@@ -573,6 +623,11 @@ public final class DaysTest {
         homeIs("past the lower 1", x, 2, 0);
         x.next(0, 1, true);
         homeIs("the least row", x, 1, 0);
+        x.knight(0, 2, 0);
+        Due.diary(x, "a+;a>3");
+        homeIs("a step", x, 2);
+        x.knight(0, 0, 0);
+        Due.diary(x, "a+;a>3");
         Due.hunts(x, 1, "h.");
         homeIs("past a hunt", x, 2, 0);
         Due.hunts(x, 2, "h.");
@@ -604,16 +659,17 @@ public final class DaysTest {
         x.knight(0, 0, 127);
         Due.diary(x, "a+");
         Due.is("all days are wolf days", -2, x.home(0, 100));
-        x.knight(0, 0, 127 - 8);
-        Due.diary(x, "a+;a>1");
-        Due.hunts(x, 0, "9h.");
+        // A place that is free on each tenth day, and not on the wolf days: behind 59 of them first.
+        x.knight(0, 1, 127 - 8);
+        Due.diary(x, "a+;a>0");
+        Due.hunts(x, 1, "9h.");
         Due.is("by 60", 60, x.home(0, 100));
-        Due.is("the last place", 0, x.home(0, 59));
-        Due.is("the one ahead of it", 1, x.home(0, 58));
-        Due.is("free on the tenth day", 0, x.home(0, 9));
-        x.knight(0, 0, 127 - 16);
-        Due.diary(x, "a+;a>1");
-        Due.hunts(x, 0, ".9h");
+        Due.is("the last place", 1, x.home(0, 59));
+        Due.is("the one ahead of it", 0, x.home(0, 58));
+        Due.is("the least row does not go there ahead of it", 0, x.home(0, 9));
+        x.knight(0, 1, 127 - 16);
+        Due.diary(x, "a+;a>0");
+        Due.hunts(x, 1, ".9h");
         Due.is("not by 60", -2, x.home(0, 100));
         Due.is("not by 60, whatever place", -2, x.home(0, 59));
         x.days(1);
@@ -654,6 +710,8 @@ public final class DaysTest {
         promise10ByNumbers();
         promise10Draws();
         promise10MoreDraws();
+        promise10WhatTheLawSees();
+        promise10PlaceEleven();
         promise10Days();
         promise11Tried();
         promise12KnightIs();

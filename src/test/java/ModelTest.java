@@ -430,6 +430,9 @@ public final class ModelTest {
             int days = 7 << roll(5);
             same("knight(" + k + ", " + p + ", " + days + ")", x.knight(k, p, days), m.knight(k, p, days));
         }
+        for (int i = 0; i < 42 && run % 50 == 0; i++) {
+            same("days(240)", x.days(240), m.days(240));
+        }
         while (told.size() < CALLS - 20) {
             switch (roll(10)) {
                 case 0:

@@ -58,13 +58,31 @@ public final class TextsTest {
         Due.is("the one before stays", 2, x.count(6));
         Due.is("the tape is empty", 0, x.count(7));
         String sum = "k" + "+k".repeat(115);
-        Due.is("240 bytes", 1, Due.law(x, "e" + sum + "(k=k+0)"));
+        Due.is("240 bytes", 1, Due.law(x, "e" + sum + "(k=k+00)"));
         Due.is("in place of the one before", 1, x.count(6));
         for (int i = 0; i < 13; i++) {
             x.feed(0, 0, 0, 0, 0);
         }
         Due.is("241 bytes", -1, x.law(241));
         Due.is("the tape stays", 260, x.count(7));
+    }
+
+    private static void promise7LongLaws() {
+        WolfKnight x = Due.row(1);
+        x.knight(1, 0, 0);
+        for (int i = 1; i < 9; i++) {
+            String text = "e" + i + "+k-k".repeat(55) + "(k=1|k=" + i + ")";
+            Due.is("a long law", 1, Due.law(x, text));
+            Due.is("a long law", i, x.likes(1, 0));
+        }
+        Due.is("at its end", -1239, Due.law(x, "e" + "k+".repeat(119)));
+        Due.is("a long law stays", 8, x.likes(1, 0));
+        String rules = "e0(k<1);".repeat(15) + "e3(!(!k=1|f=1)&!k=1|o+f=0)";
+        Due.is("sixteen rules", 16, Due.law(x, rules));
+        Due.is("the last of them", 3, x.likes(1, 0));
+        String deep = "e[1+1*[2+2*[3+3*[4+4*[5+5*[6+6*7]]]]]]([1+1*[2+2*[3+3*[4+4*[5]]]]]=153)";
+        Due.is("deep ones", 1, Due.law(x, deep));
+        Due.is("1 + 2 + 2 (3 + 3 (4 + 4 (5 + 5 * 48)))", 5913, x.likes(1, 0));
     }
 
     private static void promise7LawWords() {
@@ -133,6 +151,8 @@ public final class TextsTest {
         law("s(k=\u0000)", -1004);
         law("S(k=0)", -1000);
         law("ee(k=0)", -1001);
+        law("s(k=0)\u0000", -1006);
+        law("\u0000", -1000);
     }
 
     private static void promise7OtherFaults() {
@@ -226,6 +246,8 @@ public final class TextsTest {
         hunts("(h))", -1003);
         hunts("(h;", -1002);
         hunts("h .", -1001);
+        hunts("h\u0000", -1001);
+        hunts("(h\u0000", -1002);
         hunts("(((", -5002);
         hunts("((2(", -5003);
         hunts("(h(.(", -5004);
@@ -287,7 +309,8 @@ public final class TextsTest {
         Due.is("his clothes", 2, x.knightIs(1, 3));
         Due.is("the day stays", 1, x.count(0));
         Due.is("20 lines", 20, Due.diary(x, "a+;a-;".repeat(9) + "a+;a-"));
-        Due.is("119 bytes", 20, Due.diary(x, "b>00;b@11;".repeat(9) + "b>000".substring(0, 4) + ";b@11"));
+        Due.is("99 bytes", 20, Due.diary(x, "b>00;b@11;".repeat(9) + "b>00;b@11"));
+        Due.is("120 bytes", -1100, Due.diary(x, "b>00;b@11;".repeat(9) + "b>00;b@11" + ";".repeat(21)));
         for (int i = 0; i < 7; i++) {
             x.feed(0x612b3b61, 0, 0, 0, 0);
         }
@@ -308,6 +331,8 @@ public final class TextsTest {
         diary("a>;", -1002);
         diary("a> 1", -1002);
         diary("a>1x", -1003);
+        diary("a>1\u0000", -1003);
+        diary("\u0000", -1000);
         diary("a>1,b>1", -1003);
         diary("a+x", -1002);
         diary("a+1", -1002);
@@ -349,6 +374,7 @@ public final class TextsTest {
 
     public static void main(String[] args) {
         promise7LawSizes();
+        promise7LongLaws();
         promise7LawWords();
         promise7Fault1();
         promise7OtherFaults();

@@ -32,6 +32,9 @@ public final class ToldTest {
         Due.yes("place(0)", x.place(0));
         Due.yes("place(11)", x.place(11));
         Due.is("two are told", 1 | 1 << 11, x.count(2));
+        Due.is("alone", 1, x.rumour(0, 2));
+        Due.is("alone", 1, x.between(0, 0));
+        Due.is("alone", 0, x.between(0, 11));
         x.next(0, 11, true);
         Due.yes("place(0) again", x.place(0));
         Due.is("as before", 1 << 11, x.count(20));
@@ -53,6 +56,7 @@ public final class ToldTest {
         Due.no("no place", x.next(33, 0, true));
         Due.yes("next(11, 0)", x.next(11, 0, true));
         Due.is("next to 0", 2 | 1 << 11, x.count(20));
+        Due.is("next to 11", 1, x.count(31));
         Due.yes("not next", x.next(1, 0, false));
         Due.is("next to 0", 1 << 11, x.count(20));
         Due.is("next to 1", 0, x.count(21));
@@ -256,6 +260,9 @@ public final class ToldTest {
         Due.is("days of hunts", 3, x.count(43));
         Due.is("days of hunts of one not told", 9, x.count(51));
         Due.is("none", 0, x.count(40));
+        x.check(0);
+        Due.hunts(x, 0, "2.h");
+        Due.is("days of hunts", 3, x.count(40));
         for (int other : new int[] {-1, 9, 19, 32, 39, 52, 1000, Integer.MIN_VALUE, Integer.MAX_VALUE}) {
             Due.is("count(" + other + ")", -1, x.count(other));
         }

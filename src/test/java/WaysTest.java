@@ -117,6 +117,7 @@ public final class WaysTest {
         Due.is("fewer, though nearer", 9, x.middle());
         x.next(8, 1, true);
         Due.is("7 9 8 1 2", 8, x.middle());
+        Due.is("0 and 1", 0, Due.row(2).middle());
         Due.is("0 to 11", 5, Due.row(12).middle());
         Due.is("0 to 10", 5, Due.row(11).middle());
     }
