@@ -436,7 +436,7 @@ public final class WolfKnight {
         int ways = 0;
         for (int s = 0; s < SUITS; s++) {
             int before = worn & ~(1 << s);
-            if (hasBit(worn & fitting, s) && before < dressings.length) {
+            if (hasBit(worn & fitting, s) && before >= 0 && before < dressings.length) {
                 ways += dressings[before];
             }
         }
