@@ -4,17 +4,31 @@ import java.nio.charset.StandardCharsets;
 final class Due {
     private static int asked = 0;
     private static int wrong = 0;
+    private static String about = "";
 
     private Due() {
+    }
+
+    static int asked() {
+        return asked;
+    }
+
+    /** What is asked from here on is about this. */
+    static void about(String what) {
+        about = what + ": ";
+    }
+
+    static void blame(String what) {
+        wrong++;
+        if (wrong <= 50) {
+            System.out.println(about + what);
+        }
     }
 
     static void is(String call, long want, long got) {
         asked++;
         if (want != got) {
-            wrong++;
-            if (wrong <= 50) {
-                System.out.println(call + " answered " + got + ", due is " + want);
-            }
+            blame(call + " answered " + got + ", due is " + want);
         }
     }
 
