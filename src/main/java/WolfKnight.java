@@ -642,8 +642,10 @@ public final class WolfKnight {
                 for (int to = 0; to < PLACES; to++) {
                     steps[from * PLACES + to] = hasBit(known, to) ? 0 : FAR;
                 }
-                for (int far = 1; far < PLACES; far++) {
+                boolean wide = false;
+                for (int far = 1; far < PLACES && !wide; far++) {
                     int wider = spread(known);
+                    wide = wider == known;
                     noteSteps(from, wider & ~known, far);
                     known = wider;
                 }

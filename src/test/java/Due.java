@@ -1,7 +1,10 @@
 import java.nio.charset.StandardCharsets;
+import java.util.Set;
+import java.util.TreeSet;
 
 /** What the tests share: comparing an answer with the one that is due, and feeding texts. */
 final class Due {
+    private static final Set<String> BLAMED = new TreeSet<>();
     private static int asked = 0;
     private static int wrong = 0;
     private static String about = "";
@@ -15,13 +18,19 @@ final class Due {
 
     /** What is asked from here on is about this. */
     static void about(String what) {
-        about = what + ": ";
+        about = what;
+    }
+
+    /** What wrong answers were about. */
+    static Set<String> blamed() {
+        return new TreeSet<>(BLAMED);
     }
 
     static void blame(String what) {
         wrong++;
+        BLAMED.add(about);
         if (wrong <= 50) {
-            System.out.println(about + what);
+            System.out.println((about.isEmpty() ? "" : about + ": ") + what);
         }
     }
 

@@ -5,12 +5,15 @@ import java.nio.file.Path;
 import java.util.Arrays;
 import java.util.LinkedHashMap;
 import java.util.Map;
+import java.util.Set;
+import java.util.TreeSet;
 
 /** Binds what is asked to the sentence of the document that it stands for, and sees to it that no sentence is left out. */
 final class Edge {
     private static final Path DOCUMENT = Path.of("../shared/DOC.md");
     private static final Map<String, String> SECTIONS = new LinkedHashMap<>();
     private static final Map<String, boolean[]> NAMED = new LinkedHashMap<>();
+    private static final Set<String> OPENED = new TreeSet<>();
     private static String open = null;
     private static int askedAhead = 0;
 
@@ -35,12 +38,22 @@ final class Edge {
         }
     }
 
+    /** A part of the tests; what the class throws is told with the sentence that was asked then. */
+    static void ask(Runnable part) {
+        try {
+            part.run();
+        } catch (RuntimeException | StackOverflowError thrown) {
+            Due.blame("threw " + thrown);
+        }
+    }
+
     /** What is asked from here on stands for this sentence of this section ("Terms", "Promise 7"). */
     static void of(String section, String sentence) {
         shut();
         open = section + ": " + sentence;
         askedAhead = Due.asked();
         Due.about(open);
+        OPENED.add(open);
         String text = SECTIONS.getOrDefault(section, "");
         int at = text.indexOf(sentence);
         if (at < 0) {
@@ -52,6 +65,10 @@ final class Edge {
             at = text.indexOf(sentence, at + 1);
         }
         Arrays.fill(named, at, at + sentence.length(), true);
+    }
+
+    static Set<String> sentences() {
+        return new TreeSet<>(OPENED);
     }
 
     private static void shut() {

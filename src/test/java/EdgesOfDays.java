@@ -8,25 +8,15 @@ final class EdgesOfDays {
     private EdgesOfDays() {
     }
 
-    static void ask() {
-        termsOfADay();
-        termsOfTheFirstStep();
-        termsOfTheSecondStep();
-        termsOfTheThirdStep();
-        termsOfTheFourthStep();
-        termsOfTheFifthStep();
-        termsOfTheLastDay();
-        termsOfDraws();
-        promise10();
-        promise11();
-        promise12();
-        promise13();
-        promise14();
-        promise15();
-        promise16();
-        termsOfHome();
-        termsOfLongWaysHome();
-        promise17();
+    static Runnable[] parts() {
+        return new Runnable[] {
+            EdgesOfDays::termsOfADay, EdgesOfDays::termsOfTheFirstStep, EdgesOfDays::termsOfTheSecondStep,
+            EdgesOfDays::termsOfTheThirdStep, EdgesOfDays::termsOfTheFourthStep, EdgesOfDays::termsOfTheFifthStep,
+            EdgesOfDays::termsOfTheLastDay, EdgesOfDays::termsOfDraws, EdgesOfDays::promise10,
+            EdgesOfDays::promise11, EdgesOfDays::promise12, EdgesOfDays::promise13, EdgesOfDays::promise14,
+            EdgesOfDays::promise15, EdgesOfDays::promise16, EdgesOfDays::termsOfHome,
+            EdgesOfDays::termsOfLongWaysHome, EdgesOfDays::promise17
+        };
     }
 
     // ---- a day ----
@@ -62,6 +52,14 @@ final class EdgesOfDays {
         z.seed(Edge.seedFor(0));
         z.days(1);
         Due.is("b is there when the draw is for a", 0, z.knightIs(0, 3));
+        WolfKnight w = Due.row(3);
+        Due.law(w, "e1(p=n+1&k=1);h9(k=0&o=1);e1(p=2&o=0)");
+        w.knight(1, 0, 127);
+        w.knight(0, 0, 127);
+        w.seed(Edge.seedFor(0));
+        w.days(1);
+        Due.is("b goes behind the draw for a", 1, w.knightIs(0, 3));
+        Due.is("b goes", 1, w.knightIs(1, 0));
     }
 
     private static void termsOfTheFirstStep() {
@@ -119,6 +117,15 @@ final class EdgesOfDays {
         x.next(0, 1, false);
         x.days(1);
         Due.is("none is next any more", 1, x.knightIs(0, 0));
+        WolfKnight y = Due.row(12);
+        Due.law(y, "e1(p>n)");
+        y.knight(0, 0, 127);
+        for (int place = 1; place < 12; place++) {
+            y.days(1);
+            Due.is("one step a day", place, y.knightIs(0, 0));
+        }
+        y.days(1);
+        Due.is("none is further", 11, y.knightIs(0, 0));
     }
 
     private static void termsOfTheThirdStep() {
@@ -636,6 +643,12 @@ final class EdgesOfDays {
         Due.hunts(x, 0, "3h.");
         Due.hunts(x, 1, "2h.");
         homeIs("hunted where the clothes lie", x, 2, 2, 1, 0);
+        Due.hunts(x, 1, ".");
+        homeIs("hunted where the clothes lie alone", x, 1, 1, 1, 0);
+        Due.hunts(x, 0, "h");
+        Due.is("hunted where the clothes lie always", -2, x.home(0, 100));
+        Due.hunts(x, 0, "3h.");
+        Due.hunts(x, 1, "2h.");
         x.days(1);
         homeIs("from the day on", x, 2, 1, 0);
         Edge.of("Terms", "can be where his CLOTHES lie now on a day that is none of his WOLF DAYS;");
@@ -697,6 +710,12 @@ final class EdgesOfDays {
         Due.hunts(x, 2, "h");
         Due.hunts(x, 1, "h");
         Due.is("nowhere to go", -2, x.home(0, 59));
+        Due.hunts(x, 1, "h.");
+        Due.hunts(x, 2, ".");
+        Edge.pass(x, 9999);
+        x.knight(0, 0, 0);
+        Due.diary(x, "a+;a>2");
+        homeIs("on day 9999", x, 1, 0);
     }
 
     private static void promise17() {

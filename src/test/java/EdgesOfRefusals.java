@@ -7,13 +7,11 @@ final class EdgesOfRefusals {
     private EdgesOfRefusals() {
     }
 
-    static void ask() {
-        ownMemory();
-        refusedCalls();
-        refusedTexts();
-        noneFirst();
-        thenFaults();
-        thenOthers();
+    static Runnable[] parts() {
+        return new Runnable[] {
+            EdgesOfRefusals::ownMemory, EdgesOfRefusals::refusedCalls, EdgesOfRefusals::refusedTexts,
+            EdgesOfRefusals::noneFirst, EdgesOfRefusals::thenFaults, EdgesOfRefusals::thenOthers
+        };
     }
 
     private static WolfKnight busy() {

@@ -20,13 +20,11 @@ final class EdgesOfTables {
     private EdgesOfTables() {
     }
 
-    static void ask() {
-        termsOfTables();
-        promise27();
-        promise28();
-        promise29();
-        promise30();
-        promise31();
+    static Runnable[] parts() {
+        return new Runnable[] {
+            EdgesOfTables::termsOfTables, EdgesOfTables::promise27, EdgesOfTables::promise28,
+            EdgesOfTables::promise29, EdgesOfTables::promise30, EdgesOfTables::promise31
+        };
     }
 
     private static void termsOfTables() {

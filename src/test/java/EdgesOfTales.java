@@ -6,13 +6,11 @@ final class EdgesOfTales {
     private EdgesOfTales() {
     }
 
-    static void ask() {
-        termsOfAbsences();
-        promise24();
-        termsOfHated();
-        promise25();
-        termsOfSuits();
-        promise26();
+    static Runnable[] parts() {
+        return new Runnable[] {
+            EdgesOfTales::termsOfAbsences, EdgesOfTales::promise24, EdgesOfTales::termsOfHated,
+            EdgesOfTales::promise25, EdgesOfTales::termsOfSuits, EdgesOfTales::promise26
+        };
     }
 
     // ---- absences ----
@@ -77,6 +75,11 @@ final class EdgesOfTales {
 
     private static void promise24() {
         Edge.of("Terms", "FAULT: 1 what can't stand there.");
+        for (int b = 0; b < 256; b++) {
+            if ("pa?".indexOf(b) < 0) {
+                Due.is("absences p" + (char) b, -1001, Due.absences(new WolfKnight(), "p" + (char) b, b % 3));
+            }
+        }
         WolfKnight x = Due.row(1);
         x.knight(0, 0, 1);
         for (int what = 0; what <= 2; what++) {

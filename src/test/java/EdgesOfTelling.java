@@ -8,21 +8,14 @@ final class EdgesOfTelling {
     private EdgesOfTelling() {
     }
 
-    static void ask() {
-        termsOfPlaces();
-        termsOfKnights();
-        termsOfTheDay();
-        termsOfConstants();
-        promise1();
-        promise2();
-        promise3();
-        promise4();
-        promise5();
-        promise6();
-        promise32();
-        promises33And34();
-        promise35();
-        promise36();
+    static Runnable[] parts() {
+        return new Runnable[] {
+            EdgesOfTelling::termsOfPlaces, EdgesOfTelling::termsOfKnights, EdgesOfTelling::termsOfTheDay,
+            EdgesOfTelling::termsOfConstants, EdgesOfTelling::promise1, EdgesOfTelling::promise2,
+            EdgesOfTelling::promise3, EdgesOfTelling::promise4, EdgesOfTelling::promise5, EdgesOfTelling::promise6,
+            EdgesOfTelling::promise32, EdgesOfTelling::promises33And34, EdgesOfTelling::promise35,
+            EdgesOfTelling::promise36
+        };
     }
 
     private static void termsOfPlaces() {
@@ -119,7 +112,7 @@ final class EdgesOfTelling {
 
     private static void termsOfConstants() {
         Edge.of("Terms", "The constants: `NONE = -1`: There is none.");
-        Due.is("NONE", -1, WolfKnight.NONE);
+        Due.is("NONE", -1, shownNone());
         Edge.of("What it is", "An object is used for at most 512 calls after it has been made;");
         WolfKnight x = Due.row(3);
         x.knight(0, 0, 127);
@@ -128,6 +121,15 @@ final class EdgesOfTelling {
             x.days(19);
         }
         Due.is("the 512th call", 503 * 19, x.count(0));
+    }
+
+    /** As the class shows it: the compiler would write the constant into the test. */
+    private static int shownNone() {
+        try {
+            return WolfKnight.class.getField("NONE").getInt(null);
+        } catch (ReflectiveOperationException none) {
+            return 0;
+        }
     }
 
     private static void promise1() {
@@ -396,6 +398,11 @@ final class EdgesOfTelling {
             Due.feed(x, wrong);
             Due.is("the first wrong one", k, x.check(9));
         }
+        Due.hunts(x, 5, "h");
+        x.knight(8, 5, 127);
+        x.days(1);
+        Due.feed(x, right);
+        Due.is("a dead one's, too", -1, x.check(9));
         Edge.of("Promise 35", "CHECK by the first n bytes of the tape (0 to 9; empty then; of KNIGHTS that are not told 255):"
                 + " NONE: right; else the first that is not so;");
         for (int k = 0; k < 9; k++) {

@@ -8,15 +8,11 @@ final class EdgesOfWays {
     private EdgesOfWays() {
     }
 
-    static void ask() {
-        promise18();
-        promise19();
-        promise20();
-        promise21();
-        promise22();
-        termsOfBoots();
-        termsOfManyWays();
-        promise23();
+    static Runnable[] parts() {
+        return new Runnable[] {
+            EdgesOfWays::promise18, EdgesOfWays::promise19, EdgesOfWays::promise20, EdgesOfWays::promise21,
+            EdgesOfWays::promise22, EdgesOfWays::termsOfBoots, EdgesOfWays::termsOfManyWays, EdgesOfWays::promise23
+        };
     }
 
     private static void safest(WolfKnight x, int n, int place, int often) {
@@ -122,6 +118,9 @@ final class EdgesOfWays {
         y.knight(4, 0, 127 - 8);
         Edge.pass(y, 9999);
         calm(y, 1, 1, 0);
+        calm(y, 8, 2, 0);
+        y.knight(4, 0, 8);
+        calm(y, 8, 6, 1);
         Edge.of("Promise 19", "NONE: no such ones.");
         for (int n : NO_DAYS) {
             Due.is("calm(" + n + ", 0)", -1, x.calm(n, 0));
@@ -326,10 +325,14 @@ final class EdgesOfWays {
     private static void promise23() {
         Edge.of("Terms", "FAULTS: 1 what can't stand there, 7 a PLACE that is not told, at it.");
         WolfKnight x = Due.row(3);
-        fault(x, "m", -1000);
-        fault(x, "`", -1000);
-        fault(x, "M", -1000);
-        fault(x, "@", -1000);
+        for (int b = 0; b < 256; b++) {
+            boolean letter = b >= 'a' && b <= 'l' || b >= 'A' && b <= 'L';
+            if (!letter && b != '?') {
+                fault(Due.row(3), "b" + (char) b, -1001);
+            } else if (b != '?' && (b & 31) > 3) {
+                fault(Due.row(3), "c" + (char) b, -7001);
+            }
+        }
         fault(x, "?x", -1001);
         fault(x, "?? ", -1002);
         fault(x, "\u0000", -1000);

@@ -3,14 +3,18 @@ public final class EdgesTest {
     private EdgesTest() {
     }
 
+    static void ask() {
+        Runnable[][] all = {EdgesOfTelling.parts(), EdgesOfTexts.parts(), EdgesOfDays.parts(), EdgesOfWays.parts(),
+            EdgesOfTales.parts(), EdgesOfTables.parts(), EdgesOfRefusals.parts()};
+        for (Runnable[] parts : all) {
+            for (Runnable part : parts) {
+                Edge.ask(part);
+            }
+        }
+    }
+
     public static void main(String[] args) {
-        EdgesOfTelling.ask();
-        EdgesOfTexts.ask();
-        EdgesOfDays.ask();
-        EdgesOfWays.ask();
-        EdgesOfTales.ask();
-        EdgesOfTables.ask();
-        EdgesOfRefusals.ask();
+        ask();
         Edge.close("EdgesTest");
     }
 }

@@ -189,7 +189,7 @@ public final class ModelTest {
     }
 
     private static int feed(String text) {
-        if (x.count(7) > 0 && chance(97)) {
+        if (m.count(7) > 0 && chance(97)) {
             same("check(0)", x.check(0), m.check(0));
         }
         feed(Due.bytesOf(text));

@@ -86,6 +86,9 @@ public final class TablesTest {
         Due.is("no such year", -1, x.easter(-1));
         Due.is("no such year", -1, x.easter(MIN));
         for (int year = 1; year <= 9999; year++) {
+            if (year % 200 == 1) {
+                x = new WolfKnight();
+            }
             int easter = x.easter(year);
             Due.yes("in its bounds, " + year, easter >= 322 && easter <= 425);
             Due.is("a Sunday, " + year, 0, x.weekday(year, easter / 100, easter % 100));
