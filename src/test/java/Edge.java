@@ -141,6 +141,17 @@ final class Edge {
         return x;
     }
 
+    /** Each place next to all others. */
+    static WolfKnight web(int places) {
+        WolfKnight x = Due.row(places);
+        for (int p = 0; p < places; p++) {
+            for (int q = 0; q < p; q++) {
+                x.next(p, q, true);
+            }
+        }
+        return x;
+    }
+
     /** Lets this many days go by, 240 a call. */
     static void pass(WolfKnight x, int days) {
         for (int left = days; left > 0; left -= 240) {

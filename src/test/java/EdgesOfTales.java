@@ -134,7 +134,7 @@ final class EdgesOfTales {
         Due.is("the second, " + evenings.length + " from " + evenings[0], upper, Due.hated(x, 2, evenings));
     }
 
-    private static int[] evenings(int many, int like, int last) {
+    private static int[] row(int many, int like, int last) {
         int[] all = new int[many];
         java.util.Arrays.fill(all, like);
         all[many - 1] = last;
@@ -146,8 +146,8 @@ final class EdgesOfTales {
         hated(66, 0, 1, 0);
         hated(11, 0, 1, 0x8001);
         hated(11, 0, 11, 0x8800);
-        hated(11, 0, 11, evenings(16, 0, 0x8800));
-        hated(11, 0, 5, evenings(16, 0x8020, 0));
+        hated(11, 0, 11, row(16, 0, 0x8800));
+        hated(11, 0, 5, row(16, 0x8020, 0));
         hated(55, 1, 2, 1);
         hated(55, 0, 1, 0x0800);
         Edge.of("Terms", "it bites whenever, and only if, one of two is there: in how many twos of guests it can be so;");
@@ -183,7 +183,7 @@ final class EdgesOfTales {
         Due.is("empty", 0, x.count(7));
         Due.feed(x, Due.pairs(0x8004, 0x8040, 0, 0, 0, 0, 0, 0, 0, 0x0800));
         Due.is("all twenty", 1, x.hated(10, 0));
-        int[] sixteen = evenings(16, 0x8004, 0x8800);
+        int[] sixteen = row(16, 0x8004, 0x8800);
         Due.is("sixteen", 11, Due.hated(x, 2, sixteen));
         Due.is("empty", 0, x.count(7));
         Edge.of("Promise 25", "-2 (of 1, 2): none;");
@@ -229,10 +229,10 @@ final class EdgesOfTales {
         suits(2, -1, 257, 257);
         suits(0, -1, 257, 257, 257);
         suits(0, -1, 511, 0);
-        int[] nine = evenings(9, 511, 511);
+        int[] nine = row(9, 511, 511);
         suits(362880, -1, nine);
-        suits(40320, -1, evenings(9, 511, 256));
-        suits(0, -1, evenings(9, 255, 255));
+        suits(40320, -1, row(9, 511, 256));
+        suits(0, -1, row(9, 255, 255));
         suits(1, -1, 1, 2, 4, 8, 16, 32, 64, 128, 256);
         suits(2, -1, 3, 6, 12, 24, 48, 96, 192, 384, 257);
         suits(1, -1, 511, 255, 127, 63, 31, 15, 7, 3, 1);
@@ -244,7 +244,7 @@ final class EdgesOfTales {
             suits(7, suit, 511 - other, other);
         }
         suits(0, 8, nine);
-        suits(40320, 8, evenings(8, 511, 511));
+        suits(40320, 8, row(8, 511, 511));
         suits(2, 0, 7, 7);
         suits(1, 1, 3, 6);
     }

@@ -292,29 +292,18 @@ final class EdgesOfWays {
 
     private static void termsOfManyWays() {
         Edge.of("Terms", "PLACES (bits) where they may be behind the last one; in how many ways (1000000000 at most).");
-        WolfKnight x = Due.row(12);
-        for (int p = 0; p < 12; p++) {
-            for (int q = 0; q < p; q++) {
-                x.next(p, q, true);
-            }
-        }
+        WolfKnight x = Edge.web(12);
         boots(x, 0, "????????", 4095, 429981696);
         boots(x, 0, "?????????", 4095, 1000000000);
         boots(x, 0, "?????????a", 1, 1000000000);
         boots(x, 0, "?????????ab", 2, 1000000000);
         boots(x, 0, "?".repeat(20), 4095, 1000000000);
         boots(x, 0, "?".repeat(19) + "L", 2047, 1000000000);
-        WolfKnight y = Due.row(10);
-        for (int p = 0; p < 10; p++) {
-            for (int q = 0; q < p; q++) {
-                y.next(p, q, true);
-            }
-        }
+        WolfKnight y = Edge.web(10);
         boots(y, 0, "?????????", 1023, 1000000000);
         boots(y, 0, "????????J", 511, 900000000);
         boots(y, 0, "?????????J", 511, 1000000000);
-        WolfKnight z = Due.row(3);
-        z.next(0, 2, true);
+        WolfKnight z = Edge.web(3);
         boots(z, 0, "?".repeat(18), 7, 387420489);
         boots(z, 0, "?".repeat(19), 7, 1000000000);
         boots(z, 0, "?".repeat(19) + "a", 1, 1000000000);
