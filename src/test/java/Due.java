@@ -3,7 +3,7 @@ import java.util.Set;
 import java.util.TreeSet;
 
 /** What the tests share: comparing an answer with the one that is due, and feeding texts. */
-final class Due {
+public final class Due {
     private static final Set<String> BLAMED = new TreeSet<>();
     private static int asked = 0;
     private static int wrong = 0;
@@ -34,18 +34,18 @@ final class Due {
         }
     }
 
-    static void is(String call, long want, long got) {
+    public static void is(String call, long want, long got) {
         asked++;
         if (want != got) {
             blame(call + " answered " + got + ", due is " + want);
         }
     }
 
-    static void yes(String call, boolean got) {
+    public static void yes(String call, boolean got) {
         is(call, 1, got ? 1 : 0);
     }
 
-    static void no(String call, boolean got) {
+    public static void no(String call, boolean got) {
         is(call, 0, got ? 1 : 0);
     }
 
